@@ -898,7 +898,7 @@ public final class WeatherTeller {
         /** The sets go up, so of several with as few the least stays. */
         private int seek(int places) {
             int found = NOT_SOUGHT;
-            int fewest = Integer.MAX_VALUE;
+            int fewest = NAMES_MOST + PLACES_MOST + 1;
             for (int set = 1; set < sets; set++) {
                 if ((joined[set] & places) == places) {
                     int needed = Integer.bitCount(set) + Integer.bitCount(joined[set] & ~places);

@@ -27,6 +27,7 @@ public final class RulesTest {
         check.rules("band 002 x -0 0001 01;", 1);
         check.rules("band -0 x 998 999 1;", 1);
         check.rules("place a;region r=a,a,a;region s=r,a;", 0);
+        check.rules("place a ; region r = a , a \n, a ;", 0);
         check.rules("place calm;band 0 calm 0 1 1;", 1);
         check.rules("band 0 x 0 9 1;band 0 y 9 10 1;band 0 z -5 0 1;", 3);
         check.rules("band 0 x 0 9 1;band 1 y 0 9 1;band 2 z 0 9 1;", 3);
@@ -159,6 +160,16 @@ public final class RulesTest {
         check.same("rules of the first 8", teller.rules(8), 0);
         check.same("places", teller.count(0), 1);
         check.same("the tape is empty", teller.rules(1), -2);
+        Check.feedText(teller, "place a;            ");
+        check.same("the first 7 have no ;", teller.rules(7), -1);
+        check.same("fault(1)", teller.fault(1), 7);
+        Check.feedText(teller, "band 0 x 0 1 12345; ");
+        check.same("the first 14 have no ;", teller.rules(14), -1);
+        check.same("fault(0)", teller.fault(0), 1);
+        check.same("fault(1)", teller.fault(1), 14);
+        Check.feedText(teller, "band 0 x 0 1 1 warn;");
+        check.same("the first 18 have no ;", teller.rules(18), -1);
+        check.same("fault(1)", teller.fault(1), 15);
         Check.feedText(teller, "place b;place b;    ");
         check.same("rules with a fault", teller.rules(16), -1);
         check.same("the tape is empty", teller.rules(1), -2);
