@@ -3,20 +3,48 @@ import java.util.NoSuchElementException;
 
 /** What the tests have in common: counting wrong answers, and feeding texts to a teller. */
 final class Check {
+    private final Document document;
+    private String sentence = "";
+    private int sentences = 0;
     private int wrong = 0;
+
+    Check() {
+        this(null);
+    }
+
+    /** Sentences are looked up in that document. */
+    Check(Document document) {
+        this.document = document;
+    }
+
+    /** What is checked from here on holds these words of that part of the document. */
+    void sentence(String part, String words) {
+        sentence = part + " \"" + words + "\": ";
+        sentences++;
+        if (document != null && !document.quote(part, words)) {
+            fails("these words aren't there");
+        }
+    }
+
+    int sentences() {
+        return sentences;
+    }
 
     void same(String call, long got, long due) {
         if (got != due) {
-            wrong++;
-            System.out.println(call + " answered " + got + ", due is " + due);
+            fails(call + " answered " + got + ", due is " + due);
         }
     }
 
     void same(String call, String got, String due) {
         if (!got.equals(due)) {
-            wrong++;
-            System.out.println(call + " answered '" + got + "', due is '" + due + "'");
+            fails(call + " answered '" + got + "', due is '" + due + "'");
         }
+    }
+
+    void fails(String what) {
+        wrong++;
+        System.out.println(sentence + what);
     }
 
     void isTrue(String call, boolean got) {
@@ -103,8 +131,8 @@ final class Check {
 
     static String text(WeatherTeller teller) {
         StringBuilder signs = new StringBuilder();
-        for (int k = 0; teller.sign(k) != -1; k++) {
-            signs.append((char) teller.sign(k));
+        for (int sign = teller.sign(0); sign != -1; sign = teller.sign(signs.length())) {
+            signs.append((char) sign);
         }
         return signs.toString();
     }
