@@ -30,7 +30,7 @@ public final class SentencesTest {
         Promise13Next.hold(check);
         Promise14Changed.hold(check);
         Promise15Count.hold(check);
-        System.out.println(check.sentences() + " sentences are tested");
+        System.out.println(check.sentences() + " quotes are tested");
         Check whole = new Check();
         noneIsLeftOut(whole, document);
         check.end();
